@@ -34,6 +34,13 @@ public final class SherdCity {
     /** What a shelf holds. */
     private static final int HOLDS_SHERD = 0, HOLDS_BARGAIN = 1, HOLDS_MAN = 2, HOLDS_ROW = 3, HOLDS_NOTHING = 4;
 
+    /** All sets of clubs, the small ones first, of those as small the least bits first. */
+    private static final int[] CLUB_SETS = {
+        0, 1, 2, 4, 8, 16, 32, 3, 5, 6, 9, 10, 12, 17, 18, 20, 24, 33, 34, 36, 40, 48, 7, 11, 13, 14, 19, 21,
+        22, 25, 26, 28, 35, 37, 38, 41, 42, 44, 49, 50, 52, 56, 15, 23, 27, 29, 30, 39, 43, 45, 46, 51, 53, 54,
+        57, 58, 60, 31, 47, 55, 59, 61, 62, 63,
+    };
+
     private final City city;
     private City kept;
     private final LawReader reader;
@@ -684,16 +691,13 @@ public final class SherdCity {
             return NOBODY;
         }
         int useful = clubsOfComers(man);
-        int best = NOBODY;
-        int fewest = CLUBS + 1;
-        for (int clubs = 0; clubs < 1 << CLUBS; clubs++) {
+        for (int clubs : CLUB_SETS) {
             // A club none of whose men could turn is in no smallest set.
-            if ((clubs & ~useful) == 0 && Integer.bitCount(clubs) < fewest && goesWith(man, clubs, law)) {
-                best = clubs;
-                fewest = Integer.bitCount(clubs);
+            if ((clubs & ~useful) == 0 && goesWith(man, clubs, law)) {
+                return clubs;
             }
         }
-        return best;
+        return NOBODY;
     }
 
     private int clubsOfComers(int butMan) {
@@ -719,7 +723,7 @@ public final class SherdCity {
                 }
             }
         }
-        return poll.whoGoes(law) == man;
+        return poll.firstMan() == man && poll.whoGoes(law) == man;
     }
 
     private int clubsToTurn(int man, int day, Law law) {
