@@ -70,6 +70,9 @@ public final class HostTest {
             due.is("sort ahead of place, for " + sort, c.item(0, sort, 1), sort == 3 ? -12 : -13);
         }
         due.is("below", c.item(0, 3, -1), -12);
+        c.sheet(3, 2, 1);
+        c.put(3, 0, -13);
+        due.is("an item as low as a refusal, on the last sheet", c.item(3, 2, 0), -13);
     }
 
     private static void comesFrom() {
@@ -100,6 +103,7 @@ public final class HostTest {
         due.is("full", c.comesFrom(0, 2), -2);
         c.sheet(1, 2, 5);
         due.is("too short", c.comesFrom(1, 0), -12);
+        due.is("the last sheet", c.comesFrom(3, 0), -11);
     }
 
     private static void shelf() {

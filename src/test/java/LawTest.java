@@ -10,6 +10,7 @@ public final class LawTest {
         laws();
         conditions();
         facts();
+        longLaws();
         due.end();
     }
 
@@ -71,7 +72,8 @@ public final class LawTest {
             {"good (1) 1;", "9"}, {"good (1) not 1;", "9"}, {"good ((((((1))))));", "10"}, {"good ((((( (", "11"},
             {"good (((((1))))) and ((((((1))))));", "26"}, {"good 1;enough ((((((", "19"}, {"Good 1;", "0"}, {"good Name;", "5"},
             {"good\tname;", "4"}, {"good name\n;", "9"}, {"good 1!;", "6"}, {"good 1*2;", "6"}, {"good 1,", "6"}, {"1", "0"},
-            {"good years;", "5"}, {"good good;", "5"}, {"enough total total;", "13"}, {"nothing", "0"}, {"goo", "0"},
+            {"good years;", "5"}, {"good good;", "5"}, {"enough total total;", "13"}, {"nothing", "0"}, {"goo", "0"}, {"goodz 1;", "0"}, {"good namez;", "5"}, {"good az", "5"},
+            {"good 1`;", "6"}, {"good {", "5"}, {"good 1/1;", "6"}, {"good 1:", "6"},
         };
         for (String[] t : texts) {
             SherdCity c = new SherdCity();
@@ -141,6 +143,40 @@ public final class LawTest {
             } else {
                 due.holds(t[0] + " is no law", t[1].equals("x"));
             }
+        }
+    }
+
+    /** Laws as long as the tape is. */
+    private static void longLaws() {
+        String sum = "good 1" + "+1".repeat(143) + "=144 ;";
+        is(sum + " ".repeat(300 - sum.length()), 1);
+        is("good 1" + "-1".repeat(144) + "<0 ;", 1);
+        is("good 0" + "or0".repeat(97) + "or1", 300, 0);
+        is("good 0" + "or0".repeat(96) + "or1;", 1);
+        String or = "good 0" + " or 0".repeat(57) + " or 1;";
+        is(or, 1);
+        is("good 1" + " and 1".repeat(47) + " and 0;", 0);
+        is("good " + "not ".repeat(73) + "0;", 1);
+        is("good " + "not ".repeat(72) + "0;", 0);
+        String nested = "0 or 1 and (0 or 1 and (0 or 1 and (0 or 1 and (0 or 1 and (0 or 1 and 5 < 2 + 4)))))";
+        is("good " + nested + ";", 1);
+        is("good " + nested.replace("5", "6") + ";", 0);
+        is("good not(not(not(not(not(" + "not ".repeat(60) + "1)))));", 0);
+    }
+
+    private static void is(String text, int good) {
+        is(text, -1, good);
+    }
+
+    /** The fault of a text, or what it tells of a sherd. */
+    private static void is(String text, int fault, int good) {
+        SherdCity c = new SherdCity();
+        Due.sherd(c, "ab", 0);
+        due.holds(text.length() + " bytes at most 300", text.length() <= 300);
+        due.is("read " + text, Due.read(c, 3, text), fault < 0 ? 1 : -100 - fault);
+        if (fault < 0) {
+            c.force(3);
+            due.is("good by " + text, c.sherdOf(0, 11), good);
         }
     }
 

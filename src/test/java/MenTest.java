@@ -292,9 +292,11 @@ public final class MenTest {
             due.is("of " + what, c.of(0, what), want[what]);
         }
         due.is("no club", c.of(1, 1), -3);
+        c.man(0, 0, 1, 1);
+        due.is("club 0", c.of(2, 1), 0);
         due.is("what 8", c.of(0, 8), -1);
         due.is("what -1", c.of(0, -1), -1);
-        due.is("man 2", c.of(2, 0), -1);
+        due.is("man 3", c.of(3, 0), -1);
         due.is("man -1", c.of(-1, 0), -1);
         Due.sherd(c, "ab", 0);
         Due.rule(c, "years 0;");

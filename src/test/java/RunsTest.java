@@ -15,20 +15,24 @@ public final class RunsTest {
         long seed = args.length > 0 ? Long.parseLong(args[0]) : 1;
         int runs = args.length > 1 ? Integer.parseInt(args[1]) : RUNS;
         for (int run = 0; run < runs; run++) {
-            new RunsTest(new Random(seed * 100000 + run), run % 10 == 9).run(due, "run " + run);
+            new RunsTest(new Random(seed * 100000 + run), run % 10).run(due, "run " + run);
         }
         due.end();
     }
 
     private final Random random;
+    /** Takes any numbers at all. */
     private final boolean wild;
+    /** Begins with as much of everything as there may be. */
+    private final boolean crowded;
     private final SherdCity city = new SherdCity();
     private final PlainCity plain = new PlainCity();
     private final List<String> calls = new ArrayList<>();
 
-    private RunsTest(Random random, boolean wild) {
+    private RunsTest(Random random, int sort) {
         this.random = random;
-        this.wild = wild;
+        this.wild = sort == 9;
+        this.crowded = sort == 8;
     }
 
     private void run(Due due, String about) throws Exception {
@@ -42,7 +46,9 @@ public final class RunsTest {
         face.sort((x, y) -> x.getName().compareTo(y.getName()));
         for (int i = 0; i < 512; i++) {
             boolean right;
-            if (i < 60 && !wild) {
+            if (crowded && i < 170) {
+                right = crowd(i);
+            } else if (i < 60 && !wild && !crowded) {
                 right = settle(i);
             } else if (random.nextInt(25) == 0) {
                 right = law();
@@ -103,6 +109,35 @@ public final class RunsTest {
         }
         return call("sherd", name(), random.nextInt(2) * name(), random.nextInt(5) - 1, random.nextInt(6) - 1,
             random.nextInt(4) / 3 * name(), random.nextInt(20) * 1000 + random.nextInt(10));
+    }
+
+    private boolean crowd(int i) throws Exception {
+        if (i < 8) {
+            return call("ward", random.nextInt(5), random.nextInt(320));
+        }
+        if (i < 24) {
+            return call("man", random.nextInt(8), random.nextInt(7) - 1, name(), Due.name("p" + "ab".charAt(random.nextInt(2))));
+        }
+        if (i < 74) {
+            return call("fear", random.nextInt(16), random.nextInt(16), random.nextInt(10));
+        }
+        if (i < 90) {
+            return call("style", i - 74, random.nextInt(10000), random.nextInt(4));
+        }
+        if (i < 98) {
+            return call("bargain", random.nextInt(6), random.nextInt(16), 0, random.nextInt(60));
+        }
+        if (i < 106) {
+            return call("word", random.nextInt(16), random.nextInt(11) - 5, random.nextInt(16));
+        }
+        if (i < 116) {
+            return i == 115 ? call("keep") : i == 106 ? call("days", 1 + random.nextInt(4)) : law();
+        }
+        if (i < 156) {
+            return call("sherd", name(), random.nextInt(2) * name(), random.nextInt(9) - 1, random.nextInt(6) - 1,
+                random.nextInt(4) / 3 * name(), random.nextInt(20) * 1000 + random.nextInt(10));
+        }
+        return i < 168 ? call("heap", random.nextInt(40)) : i == 168 ? call("prove", random.nextInt(9)) : call("keep");
     }
 
     /** A thing acts, or a sherd comes from a sheet. */
@@ -199,7 +234,7 @@ public final class RunsTest {
     /** Makes the numbers of a call such that it isn't refused as a rule. */
     private void likely(String name, Object[] args) {
         int day = random.nextInt(Math.min(9999, city.many(0) + 20));
-        int man = random.nextInt(12);
+        int man = random.nextInt(crowded ? 16 : 12);
         switch (name) {
             case "days": args[0] = 1 + random.nextInt(random.nextInt(10) == 0 ? 400 : 4); break;
             case "man": args[2] = name(); args[3] = name(); break;

@@ -304,6 +304,17 @@ public final class SentTest {
         due.is("prove anew", c.prove(1), 4);
         due.is("as it was", c.row(1, 0), 1);
         due.is("without men", new SherdCity().prove(0), 0);
+        SherdCity full = new SherdCity();
+        full.ward(0, 0);
+        for (int i = 0; i < 16; i++) {
+            Due.man(full, i % 6, "m");
+        }
+        full.fear(15, 14, 9);
+        due.is("sixteen rows", full.prove(0), 16);
+        due.is("the last goes with one", full.row(15, 1), 1);
+        due.is("the one ahead with none", full.row(14, 1), 0);
+        due.is("all are right", full.judge(0), 0);
+        due.is("row 16", full.row(16, 0), -9);
     }
 
     private static void judge() {
@@ -353,6 +364,20 @@ public final class SentTest {
         Due.read(c, 1, "");
         due.is("least for any man", c.best(0), 0);
         due.is("no day either", c.best(10000), -1);
+        SherdCity d = four();
+        d.fear(0, 1, 5);
+        Due.read(d, 0, "");
+        Due.read(d, 1, "enough total = 2;");
+        due.is("no club at all is less than one", d.best(0), 1);
+        SherdCity six = new SherdCity();
+        six.ward(0, 0);
+        for (int i = 0; i < 6; i++) {
+            Due.man(six, i, "m");
+        }
+        Due.man(six, -1, "m");
+        Due.read(six, 0, "enough total = 6;");
+        Due.read(six, 1, "enough 0;");
+        due.is("no turn is above six clubs", six.best(0), 1);
         SherdCity empty = new SherdCity();
         empty.read(2);
         empty.read(1);

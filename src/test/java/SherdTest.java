@@ -87,7 +87,14 @@ public final class SherdTest {
         due.is("on", c.sherdOf(0, 8), 5);
         due.is("counts ahead of that", c.count(4, 0), 1);
         due.is("no more from that day on", c.count(5, 0), 0);
-        due.is("it is there still", c.many(5), 1);
+        Due.sherd(c, "ab", 0);
+        SherdCity d = new SherdCity();
+        Due.sherd(d, "ab", 0);
+        due.is("thrown on day 0", d.thrown(0), 1);
+        due.is("on day 0", d.sherdOf(0, 8), 0);
+        due.is("it was on day 0", d.thrown(0), -4);
+        due.is("doesn't count", d.count(0, 0), 0);
+        due.is("it is there still", c.many(5), 2);
         due.is("and good", c.sherdOf(0, 11), 1);
     }
 
