@@ -111,6 +111,13 @@ public final class CountTest {
         due.is("not certain: 2 not above 2", c.count(0, 6), 0);
         due.is("least", c.counted(0, 0, false), 2);
         due.is("his own most is above", c.counted(0, 0, true), 4);
+        SherdCity full = new SherdCity();
+        full.ward(0, 0);
+        for (int i = 0; i < 16; i++) {
+            Due.man(full, 0, i < 15 ? "zzz" : "abc");
+        }
+        Due.sherd(full, "abc", 0);
+        are("the last of sixteen", full, 0, 1, 15, 1, 0, 1, 15, 1);
     }
 
     private static void counted() {

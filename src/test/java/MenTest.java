@@ -228,6 +228,21 @@ public final class MenTest {
         due.is("has not heard", c.heard(6, 0), -3);
         c.days(1);
         due.is("hears as the day goes by", c.heard(6, 0), 401);
+        SherdCity d = new SherdCity();
+        d.ward(0, 0);
+        d.ward(0, 0);
+        d.ward(0, 0);
+        d.man(0, 4, 1, 1);
+        d.man(1, 4, 1, 1);
+        d.man(1, 2, 1, 1);
+        d.man(2, 2, 1, 1);
+        d.days(1);
+        d.word(0, 3, 0);
+        d.days(400);
+        int[] heard = {1, 4, 5, 7};
+        for (int i = 0; i < 4; i++) {
+            due.is("in one go too", d.heard(i, 0), heard[i]);
+        }
     }
 
     private static void dread() {
