@@ -1,0 +1,236 @@
+/** Promises 23 to 26: what the document says of their edges. */
+public final class EdgeLawTest {
+    private static final int BAD = SherdCity.BAD, FULL = SherdCity.FULL;
+    private static final Edge edge = new Edge();
+
+    public static void main(String[] args) {
+        promise23();
+        lowestFirst();
+        promise24();
+        faultUsesUpTheTape();
+        howManyLines();
+        numbers();
+        parentheses();
+        linesOnce();
+        faultsAtTheEnds();
+        everyPrefix();
+        factsOfOtherLines();
+        promise25();
+        promise26();
+        withoutLines();
+        edge.end();
+    }
+
+    private static void promise23() {
+        edge.takes("n bytes (1 to 8)", Scenes.NEW, 1, 8, BAD, (c, v) -> c.feed(-1L, v));
+        edge.takes("n bytes (1 to 8)", Scenes.BUSY, 1, 8, BAD, (c, v) -> c.feed(0L, v));
+        Scene room = Scenes.NEW.then(c -> Due.feed(c, " ".repeat(292)));
+        edge.answers("300 at most: how many it has", room, c -> c.feed(0L, 8), 300);
+        Scene little = Scenes.NEW.then(c -> Due.feed(c, " ".repeat(297)));
+        edge.answers("just room", little, c -> c.feed(0L, 3), 300);
+        edge.refused("FULL: more than 300", little, c -> c.feed(0L, 4), FULL);
+        edge.refused("FULL: no room at all", Scenes.FULL, c -> c.feed(0L, 1), FULL);
+        edge.refusesOutside("BAD is named ahead of FULL", Scenes.FULL, 1, 8, BAD, (c, v) -> c.feed(0L, v));
+    }
+
+    private static void lowestFirst() {
+        Scene fed = Scenes.NEW.then(c -> c.feed('y' | 'e' << 8 | 'a' << 16, 3)).then(c -> c.feed('r' | 's' << 8, 2))
+            .then(c -> c.feed('5' | 0x7f00L, 1)).then(c -> c.feed(';' | -256L, 1));
+        edge.answers("the lowest of eight first, and n of them alone", fed, c -> c.read(0), 1);
+        edge.answers("what they tell", fed.then(c -> c.read(0)).then(c -> c.force(0)), c -> c.law(0), 5);
+        Scene high = Scenes.NEW.then(c -> c.feed(0x80L << 56 | 0x20202020202020L, 8));
+        edge.answers("the highest of eight is the eighth byte, whatever its sign", high, c -> c.read(0), -107);
+        Scene zero = Scenes.NEW.then(c -> c.feed(' ', 2));
+        edge.answers("a byte 0 is no blank", zero, c -> c.read(0), -101);
+    }
+
+    private static void promise24() {
+        edge.takes("LAWS 0 to 3", Scenes.BUSY, 0, 3, BAD, SherdCity::read);
+        edge.refusesOutside("BAD: there is no such LAW", Scenes.NEW, 0, 3, BAD, SherdCity::read);
+        Scene wrong = Scenes.BUSY.then(c -> c.read(3)).then(c -> Due.feed(c, "wrong"));
+        edge.refusesOutside("BAD leaves THE TAPE, also one with a FAULT", wrong, 0, 3, BAD, SherdCity::read);
+        edge.answers("THE TAPE is there still", Scenes.BUSY.then(c -> c.read(4)), c -> c.many(9), 8);
+        edge.answers("read() uses it up", Scenes.BUSY.then(c -> c.read(3)), c -> c.many(9), 0);
+        edge.answers("so it is empty", Scenes.BUSY.then(c -> c.read(3)), c -> c.read(3), 0);
+        edge.answers("and has all its room", Scenes.FULL.then(c -> c.read(3)), c -> c.feed(0L, 8), 8);
+    }
+
+    private static void faultUsesUpTheTape() {
+        Scene empty = Scenes.BUSY.then(c -> c.read(3)).then(c -> c.force(2));
+        Scene tried = empty.then(c -> Due.feed(c, "good 0; enough 0; recall 1; may 1; years 9; x"));
+        edge.answers("the FAULT", tried, c -> c.read(2), -144);
+        edge.holds("a TEXT with a FAULT uses up THE TAPE, and changes nothing else", tried.then(c -> c.read(2)).isLike(empty));
+        edge.holds("nor for a LAW that was never read", tried.then(c -> c.read(1)).isLike(empty));
+        edge.answers("it was never read then", tried.then(c -> c.read(1)), c -> c.force(1), -8);
+        edge.answers("a LAW that is THE LAW goes on as it was", tried.then(c -> c.read(2)), c -> c.law(0), 1);
+    }
+
+    private static void reads(String sentence, String text, int want) {
+        edge.answers(sentence + ": " + text, Scenes.NEW.then(c -> Due.feed(c, text)), c -> c.read(3), want);
+        boolean right = want >= 0;
+        edge.answers("it is " + (right ? "read" : "not read") + ": " + text, Scenes.NEW.then(c -> Due.feed(c, text))
+            .then(c -> c.read(3)), c -> c.force(3), right ? -1 : -8);
+    }
+
+    private static void fault(String sentence, String text, int place) {
+        reads(sentence, text, -100 - place);
+    }
+
+    private static void howManyLines() {
+        reads("an empty TEXT", "", 0);
+        reads("blanks alone", " ".repeat(300), 0);
+        String[] lines = {"good 1;", "enough 1;", "recall 1;", "may 1;", "years 1;"};
+        StringBuilder text = new StringBuilder();
+        for (int i = 0; i < 5; i++) {
+            text.append(lines[i]);
+            reads("how many lines", text.toString(), i + 1);
+            reads("any of them first", lines[4 - i] + lines[(7 - i) % 5], 2);
+        }
+        reads("300 bytes", " ".repeat(293) + "good 1;", 1);
+        reads("blanks between", " good  1   ;  ", 1);
+        reads("no blanks where none are needed", "good(1)and(1);", 1);
+    }
+
+    private static void numbers() {
+        reads("NUMBERS (4 at most)", "good 9999;", 1);
+        fault("NUMBERS (4 at most)", "good 10000;", 5);
+        fault("as long as they go", "good 00000;", 5);
+        fault("in a SUM", "good 1 - 99999;", 9);
+        reads("N: 0 to 50", "years 0;", 1);
+        reads("N: 0 to 50", "years 50;", 1);
+        reads("N: 0 to 50, as four digits", "years 0050;", 1);
+        fault("N: 0 to 50", "years 51;", 6);
+        fault("N: 0 to 50", "years 9999;", 6);
+        fault("N: 4 digits at most", "years 00001;", 6);
+        fault("N: not below 0", "years -1;", 6);
+        fault("blanks part NUMBERS", "years 5 0;", 8);
+    }
+
+    private static void parentheses() {
+        reads("at most 5 are open within one another", "good (((((1)))));", 1);
+        fault("the sixth", "good ((((((1))))));", 10);
+        reads("those that are closed are not open", "good (((((1))))) or (((((1))))) and (1);", 1);
+        fault("the sixth behind others", "good (((((1))))) or ((((( (1))))));", 26);
+        fault("the sixth, also without an end", "good ((((((", 10);
+        reads("each line has its own", "good (((((1))))); may (((((1)))));", 2);
+        fault("more must come", "good (((((1))))", 15);
+        fault("too many closed", "good (((((1))))));", 16);
+        fault("nothing in it", "good ()", 6);
+    }
+
+    private static void linesOnce() {
+        String[] lines = {"good 1;", "enough 1;", "recall 1;", "may 1;", "years 1;"};
+        for (int i = 0; i < 5; i++) {
+            fault("a line that is there already at its WORD", lines[i] + " " + lines[i], lines[i].length() + 1);
+            String others = lines[(i + 1) % 5] + lines[(i + 2) % 5] + lines[i];
+            fault("a line that is there already, behind others", others + lines[(i + 1) % 5], others.length());
+        }
+        fault("a line that is there already, without an end", "may 1;may", 6);
+    }
+
+    private static void faultsAtTheEnds() {
+        fault("the first byte", "x", 0);
+        fault("the first byte", ";", 0);
+        fault("the last byte", "good 1" + " ".repeat(293) + "!", 299);
+        fault("the end of 300 bytes, if more must come", "good 1" + " ".repeat(294), 300);
+        fault("the end behind blanks", "good 1 or   ", 12);
+        fault("a WORD is as long as it goes", "good namex;", 5);
+        fault("a WORD that begins another", "goo", 0);
+        fault("the first byte of a WORD", "good 1; goods", 8);
+        fault("another blank", "good\t1;", 4);
+        fault("great letters", "good NAME;", 5);
+        fault("a byte of 255", "good " + (char) 255, 5);
+        fault("a byte behind z", "good name{;", 9);
+        fault("a byte ahead of a", "good name`;", 9);
+        fault("a byte ahead of 0", "good 1/;", 6);
+        fault("a byte behind 9", "good 1:;", 6);
+    }
+
+    /** Each beginning of a TEXT that is no TEXT itself has its FAULT at the end, or at a WORD or NUMBER cut short. */
+    private static void everyPrefix() {
+        String text = "good not (name and not sure < 12 + 3) or two; years 7; enough first - second > 1;";
+        for (int n = 0; n <= text.length(); n++) {
+            String part = text.substring(0, n);
+            int lines = part.length() - part.replace(";", "").length();
+            boolean whole = part.isBlank() || part.endsWith(";") || part.endsWith("; ");
+            int from = lastWord(part);
+            boolean cut = !whole && from < n && !" good not name and sure or two years enough first second ".contains(" " + part.substring(from) + " ");
+            reads("the first " + n + " bytes", part, whole ? lines : -100 - (cut ? from : n));
+        }
+    }
+
+    /** Where the row of letters begins that ends a text; its end, if it ends with something else. */
+    private static int lastWord(String text) {
+        int from = text.length();
+        while (from > 0 && Character.isLetter(text.charAt(from - 1))) {
+            from--;
+        }
+        return from;
+    }
+
+    private static void factsOfOtherLines() {
+        String[] lines = {"good", "enough", "recall", "may"};
+        String[] facts = {"name", "sure", "father", "ward", "gate", "two", "ready", "total", "first", "second", "tribes", "yes", "days",
+            "years"};
+        String[] known = {" name sure father ward gate two ready ", " total first second tribes ", " yes total ", " days years "};
+        for (int i = 0; i < 4; i++) {
+            for (String fact : facts) {
+                boolean has = known[i].contains(" " + fact + " ");
+                reads("FACTS of " + lines[i], lines[i] + " 1 + " + fact + ";", has ? 1 : -100 - lines[i].length() - 5);
+            }
+            fault("a line's WORD is no FACT", lines[i] + " good;", lines[i].length() + 1);
+        }
+    }
+
+    private static void promise25() {
+        edge.takes("-9: there is no such LAW", Scenes.FULL, -1, 3, -9, SherdCity::force);
+        edge.refusesOutside("-9: there is no such LAW", Scenes.NEW, -1, 3, -9, SherdCity::force);
+        for (int i = 0; i < 4; i++) {
+            int law = i;
+            edge.refused("-8: it was never read", Scenes.NEW, c -> c.force(law), -8);
+        }
+        edge.refused("-8: it was never read, others were", Scenes.BUSY, c -> c.force(1), -8);
+        edge.answers("-1 is taken without any LAW read", Scenes.NEW, c -> c.force(-1), -1);
+        edge.answers("which was", Scenes.BUSY, c -> c.force(0), 2);
+        edge.answers("which was: the same", Scenes.BUSY, c -> c.force(2), 2);
+        edge.answers("which was: -1", Scenes.BUSY.then(c -> c.force(-1)), c -> c.force(0), -1);
+        edge.answers("a LAW of an empty TEXT was read", Scenes.NEW.then(c -> c.read(3)), c -> c.force(3), -1);
+    }
+
+    private static void promise26() {
+        edge.takes("another what", Scenes.BUSY, 0, 4, BAD, SherdCity::law);
+        edge.takes("another what, of an empty TEXT", Scenes.NEW, 0, 4, BAD, SherdCity::law);
+        edge.tells("years 10 without", Scenes.NEW.city(), SherdCity::law, 10, 0, 0, 0, 0);
+        edge.tells("of LAW 2", Scenes.BUSY.city(), SherdCity::law, 1, 0, 0, 1, 1);
+        edge.tells("of LAW 0", Scenes.BUSY.then(c -> c.force(0)).city(), SherdCity::law, 2, 1, 1, 0, 0);
+        edge.tells("of -1", Scenes.BUSY.then(c -> c.force(-1)).city(), SherdCity::law, 10, 0, 0, 0, 0);
+        edge.tells("read anew while it is THE LAW", Scenes.BUSY.then(c -> c.read(2)).city(), SherdCity::law, 7, 0, 0, 0, 0);
+    }
+
+    /** Each line that isn't told is as in an empty TEXT, whatever the others tell. */
+    private static void withoutLines() {
+        String[] laws = {"", "enough first > 0; recall yes + yes > total; may 0; years 10;", "good name; recall yes + yes > total; may 0;",
+            "good name; enough first > 0; years 10;", "good name;", "years 10;", "may 0; enough first > 0;"};
+        Scene found = Scenes.strangers(2).then(c -> Due.sherd(c, "bbb", 0)).then(c -> Due.sherd(c, "zzz", 0));
+        Scene first = ruled(found, laws[0]);
+        for (String law : laws) {
+            Scene scene = ruled(found, law);
+            edge.answers("good is: name, in: " + law, scene, c -> c.sherdOf(0, 11), 1);
+            edge.answers("good is: name, in: " + law, scene, c -> c.sherdOf(1, 11), 0);
+            edge.answers("enough: first > 0, in: " + law, scene, c -> c.count(0, 5), 1);
+            Scene sent = scene.then(SherdCity::send);
+            edge.answers("years 10, in: " + law, sent, c -> c.of(1, 6), 3599);
+            edge.answers("recall: yes + yes > total, 1 of 2, in: " + law, sent, c -> c.recall(1, 1, 2), 0);
+            edge.answers("recall: yes + yes > total, 2 of 3, in: " + law, sent, c -> c.recall(1, 2, 3), 1);
+            edge.answers("recall: yes + yes > total, 0 of 0, in: " + law, sent, c -> c.recall(1, 0, 0), 0);
+            edge.answers("recall: yes + yes > total, 5000 of 9999, in: " + law, sent, c -> c.recall(1, 5000, 9999), 1);
+            edge.answers("may: 0, in: " + law, sent, c -> c.may(1, 0), 0);
+            edge.answers("may: 0, in: " + law, sent, c -> c.may(1, 3599), 0);
+        }
+        edge.answers("not enough without any", first.then(c -> c.thrown(0)), c -> c.count(0, 5), SherdCity.NONE);
+    }
+
+    private static Scene ruled(Scene scene, String law) {
+        return scene.then(c -> Due.rule(c, law));
+    }
+}
