@@ -155,6 +155,13 @@ public final class EdgeCastTest {
         edge.answers("BOUND to himself", bound, c -> c.cast(3, 0), NONE);
         edge.answers("BOUND to himself, he casts whom he dreads", bound.then(c -> c.fear(3, 0, 1)), c -> c.cast(3, 0), 0);
         edge.answers("with BREAK 0 there is such a one always", bound.then(c -> c.rule(1, 0)), c -> c.cast(0, 0), NONE);
+        for (int i = 0; i < 3; i++) {
+            int y = i;
+            int man = y == 1 ? 2 : 1;
+            edge.answers("any other y: MAN " + y, bound.then(c -> c.fear(man, y, 3)), c -> c.cast(man, 0), y);
+            edge.answers("and less of him", bound.then(c -> c.fear(man, y, 2)), c -> c.cast(man, 0), 3);
+        }
+        edge.answers("x himself is no y", bound.then(c -> c.fear(0, 3, 9)).then(c -> c.rule(1, 0)), c -> c.cast(0, 0), 3);
         Scene breaks20 = bound.then(c -> c.rule(1, 20)).then(c -> c.fear(0, 1, 9)).then(c -> c.word(1, 5, 0))
             .then(c -> c.word(1, 5, 0));
         edge.answers("19 with BREAK 20", breaks20, c -> c.cast(0, 0), 3);

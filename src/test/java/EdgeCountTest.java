@@ -69,6 +69,9 @@ public final class EdgeCountTest {
         edge.answers("3 is not above 3", two.then(c -> sherds(c, "abx", 3, 0)), c -> c.count(0, 6), 0);
         edge.answers("his LEAST, not his MOST", two.then(c -> sherds(c, "abx", 9, 0)), c -> c.count(0, 6), 0);
         edge.answers("he GOES all the same", two.then(c -> sherds(c, "abx", 9, 0)), c -> c.count(0, 5), 0);
+        Scene last = two.then(c -> sherds(c, "abd", 4, 0));
+        edge.answers("each other: MAN 0, too", last.then(c -> Due.sherd(c, "abx", 0)), c -> c.count(0, 6), 0);
+        edge.answers("above MOST of MAN 0", last, c -> c.count(0, 6), 1);
         edge.answers("SURE ones are of MOST, too", two.then(c -> sherds(c, "abd", 3, 0)), c -> c.count(0, 6), 0);
         edge.answers("if that is so: not without enough", two.then(c -> Due.rule(c, "enough 0;")), c -> c.count(0, 6), 0);
     }

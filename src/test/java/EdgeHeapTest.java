@@ -9,6 +9,7 @@ public final class EdgeHeapTest {
         promise45();
         promise46();
         parts();
+        heapedAnew();
         hired();
         edge.end();
     }
@@ -105,10 +106,34 @@ public final class EdgeHeapTest {
         parts("SLACK 35 parts the two that are 36 apart", heaped(0, 9999, 90, 9).then(c -> c.rule(3, 35)), 2, 0, 1, 0, 0);
     }
 
+    /** What THE HEAP had ahead of clear() doesn't matter. */
+    private static void heapedAnew() {
+        SherdCity c = heaped(0, 1, 2, 3, 9999, 9998, 5000, 5, 50).city();
+        edge.is("a HEAP of nine", c.hands(0), 5);
+        c.clear();
+        c.heap(4);
+        c.heap(0);
+        c.heap(5);
+        edge.is("three of them, in another order", c.hands(0), 2);
+        edge.is("the part of the first", c.hands(10), 0);
+        edge.is("the part of the second", c.hands(11), 1);
+        edge.is("the part of the third", c.hands(12), 0);
+        edge.is("no part of a fourth", c.hands(13), BAD);
+        c.rule(3, 0);
+        edge.is("SLACK as it is now", c.hands(0), 3);
+    }
+
     private static void hired() {
         edge.answers("2 SHERDS are too few", heaped(0, 0), c -> c.hands(1), 0);
         edge.answers("3 SHERDS through three GATES", heaped(0, 0, 0), c -> c.hands(1), 1);
         edge.answers("one GATE is too few", gates(0, 0, 0), c -> c.hands(1), 0);
+        for (int i = 0; i < 5; i++) {
+            int gate = i;
+            edge.answers("one GATE: " + gate, gates(gate, gate, gate), c -> c.hands(1), 0);
+            edge.answers("one GATE and none: " + gate, gates(gate, -1, gate, -1), c -> c.hands(1), 0);
+            edge.answers("and another: " + gate, gates(gate, gate, (gate + 1) % 5), c -> c.hands(1), 1);
+        }
+        edge.answers("none at all", gates(-1, -1, -1), c -> c.hands(1), 0);
         edge.answers("two GATES", gates(4, 4, 0), c -> c.hands(1), 1);
         edge.answers("none is no GATE", gates(-1, 0, 0), c -> c.hands(1), 0);
         edge.answers("none is no GATE, but it is a SHERD", gates(-1, 0, 1), c -> c.hands(1), 1);

@@ -273,6 +273,14 @@ public final class EdgeHostTest {
     private static void promise53() {
         Scene ran = Scenes.FULL.then(c -> c.act(1, 1, 5));
         edge.answers("bodies ran", ran, c -> c.many(10), 3);
+        for (int i = 0; i < 4; i++) {
+            int shelf = i;
+            Scene held = Scenes.men(1).then(c -> c.sherd(1, 0, -1, -1, 0, 77));
+            edge.answers("nothing at first, though there is a SHERD 0", held, c -> c.act(shelf, 0, 5), 0);
+            edge.refused("nothing at first, though there is a SHERD 0", held, c -> c.taken(shelf, 0), NOTHING);
+            edge.answers("SHELF " + shelf, held.then(c -> c.shelf(shelf, 0, 0)), c -> c.act(shelf, 1, 5), 10 ^ 77);
+            edge.answers("not another SHELF", held.then(c -> c.shelf(shelf, 0, 0)), c -> c.act((shelf + 1) % 4, 1, 5), 0);
+        }
         for (int v : new int[] {-1, 4, MIN, MAX}) {
             none("no such SHELF", ran, v, 0);
             none("no such act", ran, 1, v);

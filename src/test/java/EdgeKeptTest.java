@@ -87,9 +87,14 @@ public final class EdgeKeptTest {
             c.word(1, 1, 1);
             c.bargain(0, 1, 0, 1);
         }
+        c.style(1, 9876, 3);
+        c.fear(1, 2, 9);
+        c.fear(3, 1, 9);
         for (int i = 0; i < 40; i++) {
-            Due.sherd(c, "aaa", 1);
+            c.sherd(Due.name(i % 2 == 0 ? "aaa" : "bb"), Due.name("pa"), -1, 1, i < 36 ? Due.name("ccc") : 0, 19999);
         }
+        c.thrown(1);
+        c.thrown(2);
         for (int i = 0; i < 9; i++) {
             c.heap(i);
         }
@@ -103,6 +108,10 @@ public final class EdgeKeptTest {
         }
         c.send();
         c.days(9);
+        c.recall(0, 1, 1);
+        for (int i = 0; i < 8; i++) {
+            c.harvest(i, 0, 9999);
+        }
     }
 
     private static void notKept() {
@@ -127,6 +136,9 @@ public final class EdgeKeptTest {
         Scene before = Scenes.men(1).then(SherdCity::keep).then(c -> c.prove(0)).then(c -> Due.feed(c, "good")).then(SherdCity::again);
         edge.answers("ROWS that came later stay", before, c -> c.many(7), 1);
         edge.answers("THE TAPE that came later stays", before, c -> c.many(9), 4);
+        Scene recalled = Scenes.strangers(1).then(c -> Due.sherd(c, "aaa", 0)).then(SherdCity::send).then(c -> c.recall(0, 1, 1));
+        edge.answers("that he was RECALLED is kept", recalled.then(SherdCity::keep).then(SherdCity::send).then(SherdCity::again),
+            c -> c.of(0, 7), 1);
         Scene rows = EMPTY_KEPT.then(c -> c.ward(0, 0)).then(c -> c.man(0, 0, 1, 1)).then(c -> c.prove(0)).then(SherdCity::again);
         edge.answers("ROWS of a MAN who is not there any more", rows, c -> c.row(0, 0), 0);
         edge.answers("they are not so", rows, c -> c.judge(0), 1);

@@ -14,6 +14,7 @@ public final class EdgeLawTest {
         linesOnce();
         faultsAtTheEnds();
         everyPrefix();
+        oneBehindAnother();
         factsOfOtherLines();
         promise25();
         promise26();
@@ -166,6 +167,40 @@ public final class EdgeLawTest {
             from--;
         }
         return from;
+    }
+
+    /** What was read ahead of a TEXT, right or with a FAULT, doesn't matter for it. */
+    private static void oneBehindAnother() {
+        String[] before = {"", "good", "good (((((", "good not not", "good 1 <", "good 1 < 2 <", "good 1 or", "years", "years 5", "years 51;",
+            "good 1; good 1;", "enough 1 + (", "good namexx", "good 12345", "recall yes and (yes or (total", "good 1; enough (2)); may 1;",
+            "good name; enough 1; recall 1; may 1; years 50;", "xxxxxxxxxxxxxxxxxxxxxxxxxxxxxx", "999999999999999999999999999"};
+        for (String first : before) {
+            Scene read = Scenes.NEW.then(c -> Due.read(c, 1, first));
+            follows(first, read, "", 0);
+            follows(first, read, "goo", -100);
+            follows(first, read, "good", -104);
+            follows(first, read, "good name", -109);
+            follows(first, read, "years 9", -107);
+            follows(first, read, "good (((((1)))));", 1);
+            follows(first, read, "good ((((((1))))));", -110);
+            follows(first, read, "good 1 < 2; years 4;", 2);
+            follows(first, read, "1", -100);
+            Scene right = read.then(c -> Due.read(c, 2, "years 4;")).then(c -> c.force(2));
+            edge.tells("and nothing else is told behind: " + first, right.city(), SherdCity::law, 4, 0, 0, 0, 0);
+        }
+        SherdCity c = Scenes.strangers(1).city();
+        Due.sherd(c, "aaa", 0);
+        for (int i = 0; i < 8; i++) {
+            edge.is("a long one each time", Due.read(c, i % 4, "good 0" + "+1".repeat(146) + ";"), 1);
+            c.force(i % 4);
+            edge.is("it is true", c.sherdOf(0, 11), 1);
+            edge.is("another long one", Due.read(c, i % 4, "good 0" + "or 0".repeat(73) + ";"), 1);
+            edge.is("it is not", c.sherdOf(0, 11), 0);
+        }
+    }
+
+    private static void follows(String first, Scene read, String text, int want) {
+        edge.answers("behind " + first + ": " + text, read.then(c -> Due.feed(c, text)), c -> c.read(2), want);
     }
 
     private static void factsOfOtherLines() {

@@ -215,10 +215,38 @@ public final class EdgeMenTest {
         edge.answers("he whom it is about does not", day0, c -> c.heard(0, 0), NONE);
         Scene last = Scenes.onDay(Scenes.men(2), 9999).then(c -> c.word(0, 1, 1));
         edge.answers("and on DAY 9999", last, c -> c.heard(1, 0), 9999);
-        edge.answers("the fifteen others HEAR it a DAY later", day0.then(c -> c.days(3)), c -> c.heard(14, 0), 1);
+        for (int i = 0; i < 16; i++) {
+            int man = i;
+            edge.answers("the fifteen others HEAR it a DAY later", day0.then(c -> c.days(3)), c -> c.heard(man, 0), man < 15 ? 1 : 0);
+        }
+        everyWardAndClub();
         Scene comesLate = Scenes.men(2).then(c -> c.word(0, 1, 0)).then(c -> c.days(9)).then(c -> c.man(0, -1, 1, 1));
         edge.answers("a MAN who comes late has not HEARD it", comesLate, c -> c.heard(2, 0), NONE);
         edge.answers("till a DAY goes by", comesLate.then(c -> c.days(1)), c -> c.heard(2, 0), 10);
+    }
+
+    /** A MAN of each WARD and one of each CLUB, who have none of the two in common. */
+    private static void everyWardAndClub() {
+        Scene apart = Scenes.NEW.then(c -> {
+            for (int i = 0; i < 8; i++) {
+                c.ward(0, 0);
+                c.man(i, i < 6 ? i : -1, 1, 1);
+            }
+        });
+        for (int i = 0; i < 8; i++) {
+            int from = i;
+            Scene alone = apart.then(c -> c.word(0, 1, from)).then(c -> c.days(7));
+            Scene ward = apart.then(c -> c.man(from, -1, 1, 1)).then(c -> c.days(1)).then(c -> c.word(0, 1, 8)).then(c -> c.days(1));
+            Scene club = apart.then(c -> c.man((from + 1) % 8, from < 6 ? from : -1, 1, 1)).then(c -> c.word(0, 1, from))
+                .then(c -> c.days(1));
+            for (int j = 0; j < 8; j++) {
+                int to = j;
+                edge.answers("nobody of another WARD and CLUB, from " + from + " to " + to, alone, c -> c.heard(to, 0), from == to ? 0 : NONE);
+                edge.answers("those of his WARD alone, from " + from + " to " + to, ward, c -> c.heard(to, 0), from == to ? 2 : NONE);
+                edge.answers("those of his CLUB alone, from " + from + " to " + to, club, c -> c.heard(to, 0), from == to ? 0 : NONE);
+            }
+            edge.answers("the other of his CLUB", club, c -> c.heard(8, 0), from < 6 ? 1 : NONE);
+        }
     }
 
     private static void promise10() {

@@ -225,6 +225,9 @@ public final class EdgeSentTest {
             int d = day;
             edge.answers("each casts that one, whatever he dreads, on DAY " + d, bound, c -> c.keptBy(d), want[d]);
         }
+        Scene first = Scenes.men(1).then(c -> c.man(0, 1, 1, 1)).then(c -> c.bargain(1, 0, 0, 0)).then(c -> c.rule(1, 0));
+        edge.answers("BOUND to MAN 0", first.then(c -> c.man(0, -1, 1, 1)), c -> c.keptBy(0), 0);
+        edge.answers("whom he doesn't cast else", first.then(c -> c.man(0, -1, 1, 1)), c -> c.beside(-1, 0), NONE);
         Scene himself = bound.then(c -> c.bargain(5, 0, 2, 4));
         edge.answers("to another than himself", himself, c -> c.keptBy(3), 0);
         edge.answers("he casts by DREAD", himself.then(c -> Due.rule(c, "enough second = 1;")), c -> c.keptBy(3), 0);

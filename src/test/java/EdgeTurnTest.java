@@ -6,7 +6,10 @@ public final class EdgeTurnTest {
     public static void main(String[] args) {
         promise37();
         smallestSets();
+        everySet();
+        leastBitsOfSeveral();
         whoTurns();
+        castsNotBargains();
         promise38();
         promise39();
         promise40();
@@ -65,6 +68,67 @@ public final class EdgeTurnTest {
         edge.answers("on the DAY ahead", late, c -> c.turn(0, 4), 8);
     }
 
+    /** Those of the CLUBS of a set COME, one each, and all of them are asked for. */
+    private static void everySet() {
+        for (int i = 0; i < 64; i++) {
+            int set = i;
+            Scene scene = Scenes.NEW.then(c -> {
+                c.ward(0, 0);
+                c.ward(0, 600);
+                c.man(0, -1, 1, 1);
+                for (int club = 0; club < 6; club++) {
+                    c.man((set >> club & 1) != 0 ? 0 : 1, club, 1, 1);
+                }
+                c.man(1, -1, 1, 1);
+            });
+            Scene law = ruled(scene, "enough first = " + Integer.bitCount(set) + ";");
+            edge.answers("the set " + set, law, c -> c.turn(0, 0), set == 0 ? NONE : set);
+            edge.answers("the set " + set + " for one who doesn't COME", law, c -> c.turn(7, 0), set == 0 ? NONE : set);
+        }
+    }
+
+    /** CLUBS of so many MEN, as many votes asked for as some of them have. */
+    private static void leastBitsOfSeveral() {
+        int[][] sizes = {{1, 2, 3, 1, 2, 3}, {3, 2, 1, 3, 2, 1}, {2, 2, 2, 3, 3, 3}, {1, 1, 2, 2, 4, 4}, {5, 4, 3, 1, 1, 1}, {1, 4, 2, 3, 1, 4}};
+        for (int[] size : sizes) {
+            StringBuilder all = new StringBuilder();
+            for (int club = 0; club < 6; club++) {
+                all.append(String.valueOf(club).repeat(size[club]));
+            }
+            for (int votes = 1; votes < 15; votes++) {
+                Scene scene = ruled(clubs(all.chars().map(c -> c - '0').toArray()), "enough first = " + votes + ";");
+                edge.answers(all + ", " + votes + " votes", scene, c -> c.turn(0, 0), leastSet(size, votes));
+            }
+        }
+    }
+
+    private static int leastSet(int[] size, int votes) {
+        int best = NONE;
+        for (int set = 1; set < 64; set++) {
+            int sum = 0;
+            for (int club = 0; club < 6; club++) {
+                sum += (set >> club & 1) * size[club];
+            }
+            if (sum == votes && (best < 0 || Integer.bitCount(set) < Integer.bitCount(best))) {
+                best = set;
+            }
+        }
+        return best;
+    }
+
+    /** Who is BOUND but dreads another casts that other in a TURN, too: it is BESIDE, not KEPT. */
+    private static void castsNotBargains() {
+        Scene breaks = clubs(2, 3).then(c -> c.bargain(2, 2, 0, 9999)).then(c -> c.fear(1, 0, 9));
+        edge.answers("TURN for the one who is dreaded", breaks, c -> c.turn(0, 0), 0);
+        edge.answers("TURN for the one to whom the CLUB is BOUND", breaks, c -> c.turn(2, 0), 4);
+        Scene proven = breaks.then(c -> c.prove(0));
+        rows("ROWS of whom they cast", proven, 0, -1, 1);
+        edge.answers("THE READER", proven, c -> c.judge(0), 0);
+        Scene two = ruled(breaks.then(c -> c.man(0, 2, 1, 1)), "");
+        edge.answers("THE BEST LAW", laws(two, "enough second = 0;", "enough second = 1;"), c -> c.best(0), 0);
+        edge.answers("two kept, though one breaks: none GOES with SECOND 0", ruled(two, "enough second = 0;"), c -> c.turn(0, 0), 4);
+    }
+
     private static void whoTurns() {
         Scene own = clubs(2, 2).then(c -> c.fear(1, 2, 9));
         edge.answers("he of his own CLUB casts as he did, the other turns", ruled(own, "enough first = 1;"), c -> c.turn(1, 0), 4);
@@ -83,6 +147,9 @@ public final class EdgeTurnTest {
         });
         edge.answers("each MAN who COMES", home, c -> c.turn(0, 4), 8);
         edge.answers("who doesn't turns not", home, c -> c.turn(0, 5), 16);
+        Scene both = ruled(home.then(c -> c.man(0, 3, 1, 1)), "enough first = 2 and total = 2;");
+        edge.answers("a CLUB of two who COME", both, c -> c.turn(0, 4), 8);
+        edge.answers("a CLUB of two of whom one COMES", both, c -> c.turn(0, 5), 24);
         edge.answers("y need not COME", home, c -> c.turn(1, 5), 16);
         Scene sent = Scenes.NEW.then(c -> {
             c.ward(0, 0);
