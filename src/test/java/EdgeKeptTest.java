@@ -162,7 +162,9 @@ public final class EdgeKeptTest {
         c.word(3, 5, 1);
         c.bargain(2, 4, 0, 50);
         c.vote();
-        Due.sherd(c, "bbb", 3);
+        for (String name : new String[] {"bbb", "zzz", "yyy", "cc"}) {
+            Due.sherd(c, name, 3);
+        }
         c.days(2);
         c.read(1);
         c.heap(1);

@@ -171,7 +171,7 @@ public final class EdgeLawTest {
 
     /** What was read ahead of a TEXT, right or with a FAULT, doesn't matter for it. */
     private static void oneBehindAnother() {
-        String[] before = {"", "good", "good (((((", "good not not", "good 1 <", "good 1 < 2 <", "good 1 or", "years", "years 5", "years 51;",
+        String[] before = {"", "good", "good (((((", "good not", "good (not (1 + 2", "good not not", "good 1 <", "good 1 < 2 <", "good 1 or", "years", "years 5", "years 51;",
             "good 1; good 1;", "enough 1 + (", "good namexx", "good 12345", "recall yes and (yes or (total", "good 1; enough (2)); may 1;",
             "good name; enough 1; recall 1; may 1; years 50;", "xxxxxxxxxxxxxxxxxxxxxxxxxxxxxx", "999999999999999999999999999"};
         for (String first : before) {
@@ -185,6 +185,11 @@ public final class EdgeLawTest {
             follows(first, read, "good ((((((1))))));", -110);
             follows(first, read, "good 1 < 2; years 4;", 2);
             follows(first, read, "1", -100);
+            Scene found = read.then(c -> Due.sherd(c, "abc", 0));
+            for (String one : new String[] {"1", "not 0", "1 or 0", "(1)", "0 < 1"}) {
+                Scene good = found.then(c -> Due.read(c, 2, "good " + one + ";")).then(c -> c.force(2));
+                edge.answers("behind " + first + " it is true: " + one, good, c -> c.sherdOf(0, 11), 1);
+            }
             Scene right = read.then(c -> Due.read(c, 2, "years 4;")).then(c -> c.force(2));
             edge.tells("and nothing else is told behind: " + first, right.city(), SherdCity::law, 4, 0, 0, 0, 0);
         }
