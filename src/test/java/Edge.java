@@ -7,10 +7,13 @@ final class Edge {
         int with(SherdCity city, int v);
     }
 
-    /** Numbers that are no NAME: none, below, a letter 0 at the end, within and ahead of others, seven letters. */
+    /**
+     * Numbers that are no NAME: none, below, a letter 0 at the end, within and ahead of others, seven letters with a 0
+     * among them and without (aaaaaaa, aaaaaab, eazzzzz).
+     */
     private static final int[] NO_NAMES = {
         0, -1, Integer.MIN_VALUE, Integer.MAX_VALUE, 27, 54, 702 - 702 % 27, 729, 730, 756, 27 * 27 * 27 * 5 + 27 * 3 + 4,
-        387420489, 387420490, 387420489 + 14348907,
+        387420489, 387420490, 387420489 + 14348907, 402321277, 402321278, 5 * 387420489 + 14348907 + 14348906,
     };
     private static final int[] NAMES = {1, 26, 28, 728, 757, 19093, 14900788, 387420488};
 

@@ -12,6 +12,9 @@ public final class EdgeCastTest {
         promise17();
         leastDread();
         dreadThatBreaks();
+        notSentButNeedNotCome();
+        dreadOnThatDay();
+        sentOnThatDay();
         edge.end();
     }
 
@@ -142,6 +145,77 @@ public final class EdgeCastTest {
         edge.answers("the DAY behind", gone, c -> c.cast(0, 3600), 1);
     }
 
+    /** A MAN of a CLUB that is BOUND to 1, and 1 and 2, who are at home on DAYS 5 to 9 but may be cast. */
+    private static void notSentButNeedNotCome() {
+        Scene bound = Scenes.NEW.then(c -> {
+            c.ward(0, 0);
+            c.ward(0, 0);
+            c.man(0, 3, 1, 1);
+            c.man(1, -1, 1, 1);
+            c.man(1, -1, 1, 1);
+            c.harvest(1, 5, 9);
+            c.bargain(3, 1, 0, 9999);
+        });
+        for (int d = 4; d < 11; d++) {
+            int day = d;
+            edge.answers("x need not COME, DAY " + d, bound, c -> c.cast(0, day), 1);
+            edge.answers("y need not COME, DAY " + d, bound.then(c -> c.fear(0, 2, 3)), c -> c.cast(0, day), 2);
+            edge.answers("y of less need not COME, DAY " + d, bound.then(c -> c.fear(0, 2, 2)), c -> c.cast(0, day), 1);
+            edge.answers("the one who is dreaded need not COME, DAY " + d, bound.then(c -> c.bargain(3, 0, 0, 9999))
+                .then(c -> c.fear(0, 2, 1)), c -> c.cast(0, day), 2);
+        }
+    }
+
+    /** CAST on a DAY is by the DREAD on that DAY, whatever it is TODAY. */
+    private static void dreadOnThatDay() {
+        Scene men = Scenes.men(4).then(c -> c.fear(0, 1, 2)).then(c -> c.days(5)).then(c -> c.word(2, 5, 0)).then(c -> c.days(5));
+        Scene clubs = Scenes.NEW.then(c -> {
+            c.ward(0, 0);
+            for (int i = 0; i < 4; i++) {
+                c.man(0, i == 0 ? 3 : -1, 1, 1);
+            }
+            c.bargain(3, 3, 0, 9999);
+            c.fear(0, 1, 2);
+            c.days(5);
+        });
+        Scene breaks = clubs.then(c -> c.word(2, 5, 0)).then(c -> c.days(5));
+        Scene mends = clubs.then(c -> c.fear(0, 1, 4)).then(c -> c.word(3, 5, 0)).then(c -> c.days(5));
+        int[] days = {0, 4, 5, 6, 10, 9999};
+        for (int d : days) {
+            edge.answers("the greatest DREAD on " + d, men, c -> c.cast(0, d), d < 5 ? 1 : 2);
+            edge.answers("the DREAD of y on " + d, breaks, c -> c.cast(0, d), d < 5 ? 3 : 2);
+            edge.answers("the DREAD of x on " + d, mends, c -> c.cast(0, d), d < 5 ? 1 : 3);
+        }
+    }
+
+    /** Whether one is SENT, who is cast and who breaks is looked at on that DAY: MAN 1 is SENT on 5 to 364. */
+    private static void sentOnThatDay() {
+        Scene men = Scenes.NEW.then(c -> {
+            c.ward(0, 0);
+            for (int i = 0; i < 4; i++) {
+                Scenes.man(c, 0, i == 0 ? 3 : -1, Scenes.stranger(i), "pa");
+            }
+            Due.sherd(c, "bbb", 0);
+            c.fear(0, 2, 1);
+            c.bargain(3, 3, 400, 500);
+        });
+        Scene sent = Scenes.onDay(men, 5).then(c -> Due.rule(c, "years 1;")).then(SherdCity::send);
+        Scene x = sent.then(c -> c.bargain(3, 1, 0, 9999));
+        Scene most = sent.then(c -> c.fear(0, 1, 9));
+        Scene y = sent.then(c -> c.bargain(3, 3, 0, 9999)).then(c -> c.fear(0, 1, 4));
+        int[] days = {0, 4, 5, 6, 364, 365, 9999};
+        for (int more : new int[] {0, 400}) {
+            for (int d : days) {
+                boolean there = d < 5 || d > 364;
+                String at = " on " + d + ", TODAY " + (5 + more);
+                edge.answers("x who is SENT then" + at, Scenes.onDay(x, more), c -> c.cast(0, d), there ? 1 : 2);
+                edge.answers("the greatest is SENT then" + at, Scenes.onDay(most, more), c -> c.cast(0, d), there ? 1 : 2);
+                edge.answers("y who is SENT then" + at, Scenes.onDay(y, more), c -> c.cast(0, d), there ? 1 : 3);
+                edge.answers("he himself" + at, Scenes.onDay(sent, more), c -> c.cast(1, d), there ? NONE : STATE);
+            }
+        }
+    }
+
     private static void dreadThatBreaks() {
         Scene bound = Scenes.NEW.then(c -> {
             c.ward(0, 0);
@@ -161,7 +235,12 @@ public final class EdgeCastTest {
             edge.answers("any other y: MAN " + y, bound.then(c -> c.fear(man, y, 3)), c -> c.cast(man, 0), y);
             edge.answers("and less of him", bound.then(c -> c.fear(man, y, 2)), c -> c.cast(man, 0), 3);
         }
-        edge.answers("x himself is no y", bound.then(c -> c.fear(0, 3, 9)).then(c -> c.rule(1, 0)), c -> c.cast(0, 0), 3);
+        Scene break0 = bound.then(c -> c.rule(1, 0)).then(c -> c.rule(2, 20));
+        edge.answers("x himself is no y: nobody else is dreaded as much", break0.then(c -> c.fear(0, 3, 1)), c -> c.cast(0, 0), 3);
+        edge.answers("one as much with BREAK 0 is a y, and none is of LEAST", break0.then(c -> c.fear(0, 3, 1)).then(c -> c.fear(0, 2, 1)),
+            c -> c.cast(0, 0), NONE);
+        edge.answers("he himself is no y: alone with x he is true", Scenes.men(1).then(c -> c.man(0, 0, 1, 1))
+            .then(c -> c.bargain(0, 0, 0, 0)).then(c -> c.rule(1, 0)).then(c -> c.rule(2, 20)), c -> c.cast(1, 0), 0);
         Scene breaks20 = bound.then(c -> c.rule(1, 20)).then(c -> c.fear(0, 1, 9)).then(c -> c.word(1, 5, 0))
             .then(c -> c.word(1, 5, 0));
         edge.answers("19 with BREAK 20", breaks20, c -> c.cast(0, 0), 3);

@@ -10,6 +10,7 @@ public final class EdgeHeapTest {
         promise46();
         parts();
         heapedAnew();
+        thrownOnes();
         hired();
         edge.end();
     }
@@ -104,6 +105,23 @@ public final class EdgeHeapTest {
         parts("SLACK 0 parts all that differ", heaped(1, 2, 1, 2).then(c -> c.rule(3, 0)), 2, 0, 1, 0, 1);
         parts("SLACK 36 parts nothing", heaped(0, 9999, 90, 9).then(c -> c.rule(3, 36)), 1, 0, 0, 0, 0);
         parts("SLACK 35 parts the two that are 36 apart", heaped(0, 9999, 90, 9).then(c -> c.rule(3, 35)), 2, 0, 1, 0, 0);
+    }
+
+    /** THROWN SHERDS are SHERDS of THE HEAP as before. */
+    private static void thrownOnes() {
+        Scene heap = heaped(0, 0, 0, 9999);
+        for (int sherd = 0; sherd < 4; sherd++) {
+            int s = sherd;
+            Scene thrown = heap.then(c -> c.thrown(s));
+            edge.answers("a SHERD of THE HEAP may be THROWN", heap, c -> c.thrown(s), 1);
+            edge.answers("how many it has", thrown, c -> c.many(8), 4);
+            edge.refused("it is there", thrown, c -> c.heap(s), STATE);
+            parts("THROWN", thrown, 2, 0, 0, 0, 1);
+            edge.answers("HIRED", thrown, c -> c.hands(1), 1);
+            edge.answers("ALIKE", thrown, c -> c.alike(s, (s + 1) % 3), s < 3 ? 1 : 0);
+            Scene late = heap.then(SherdCity::clear).then(c -> c.thrown(s)).then(c -> c.heap(s));
+            edge.answers("one that was THROWN comes to THE HEAP", late, c -> c.hands(10), 0);
+        }
     }
 
     /** What THE HEAP had ahead of clear() doesn't matter. */

@@ -14,8 +14,11 @@ public final class EdgeLawTest {
         linesOnce();
         faultsAtTheEnds();
         everyPrefix();
+        everythingAtEveryPlace();
         oneBehindAnother();
         factsOfOtherLines();
+        factsOfSherds();
+        numbersAreTrue();
         promise25();
         promise26();
         withoutLines();
@@ -169,6 +172,90 @@ public final class EdgeLawTest {
         return from;
     }
 
+    /**
+     * Every byte, and every WORD, at every place of a TEXT. What goes on there: L a line, N a NUMBER, T a TERM, O a ONE,
+     * o one but for another parenthesis, S a SIGN, P + or -, A and or or, C the end of a parenthesis, E that of the line.
+     */
+    private static void everythingAtEveryPlace() {
+        String[][] places = {
+            {"", "L"}, {"  ", "L"}, {"years ", "N"}, {"years 5 ", "E"}, {"years 5;", "L"}, {"LINE 1 ; ", "L"},
+            {"LINE ", "O"}, {"LINE not ", "O"}, {"LINE not not ", "O"}, {"LINE (", "O"}, {"LINE not (((( ", "O"}, {"LINE (((((", "o"},
+            {"LINE (((((not ", "o"}, {"LINE (((((1 or ", "o"}, {"LINE (((((1 and ", "o"}, {"LINE (((((1) and ", "O"},
+            {"LINE FACT ", "SPAE"}, {"LINE 1 ", "SPAE"}, {"LINE 1 + 2 ", "SPAE"}, {"LINE 1 - FACT + 3 ", "SPAE"},
+            {"LINE not 1 ", "SPAE"}, {"LINE 1 or 2 ", "SPAE"}, {"LINE 1 < 2 and 3 ", "SPAE"}, {"LINE (1) or 2 - 3 ", "SPAE"},
+            {"LINE 1 + ", "T"}, {"LINE 1 - ", "T"}, {"LINE (1 + 2 - ", "T"}, {"LINE 1 < ", "T"}, {"LINE 1 = ", "T"}, {"LINE 1 > ", "T"},
+            {"LINE 1 < 2 + ", "T"}, {"LINE (FACT = FACT - ", "T"},
+            {"LINE 1 < 2 ", "PAE"}, {"LINE 1 = FACT ", "PAE"}, {"LINE 1 > 2 ", "PAE"}, {"LINE 1 + 2 < 3 - 4 ", "PAE"},
+            {"LINE (1) and 1 < 2 ", "PAE"}, {"LINE not 1 < 2 ", "PAE"},
+            {"LINE (1 ", "SPAC"}, {"LINE (FACT ", "SPAC"}, {"LINE (((((1 ", "SPAC"}, {"LINE (1) or (2 ", "SPAC"}, {"LINE (not 1 + 2 ", "SPAC"},
+            {"LINE (1 < 2 ", "PAC"}, {"LINE ((1) and 1 < 2 ", "PAC"}, {"LINE (((((1 = 2 - 3 ", "PAC"},
+            {"LINE (1) ", "AE"}, {"LINE not (1) ", "AE"}, {"LINE (((((1))))) ", "AE"}, {"LINE 1 or (2) ", "AE"}, {"LINE ((1) or (2)) ", "AE"},
+            {"LINE ((1) ", "AC"}, {"LINE (((((1)))) ", "AC"}, {"LINE (1 or (2) ", "AC"}, {"LINE ((1) or (2) ", "AC"},
+            {"LINE 1 or ", "O"}, {"LINE 1 and ", "O"}, {"LINE (1) or ", "O"}, {"LINE 1 < 2 and ", "O"}, {"LINE (1 or ", "O"},
+        };
+        String[] lines = {"good", "enough", "recall", "may"};
+        String[] facts = {"name sure father ward gate two ready", "total first second tribes", "yes total", "days years"};
+        for (int i = 0; i < 4; i++) {
+            for (String[] place : places) {
+                String text = place[0].replace("LINE", lines[i]).replace("FACT", facts[i].split(" ")[0]);
+                everyByte(text, place[1]);
+                everyWord(text, place[1], " " + facts[i] + " ");
+                // No blank is needed ahead of anything that doesn't make a WORD or NUMBER longer.
+                everyByte(text.stripTrailing(), place[1]);
+                everyWord(text.stripTrailing(), place[1], " " + facts[i] + " ");
+            }
+        }
+    }
+
+    /** Whether that sign goes on with the WORD or NUMBER at the end of a text. */
+    private static boolean goesOnAs(String text, char sign) {
+        char last = text.isEmpty() ? ' ' : text.charAt(text.length() - 1);
+        return last >= 'a' && last <= 'z' && sign >= 'a' && sign <= 'z' || last >= '0' && last <= '9' && sign >= '0' && sign <= '9';
+    }
+
+    private static boolean may(String what, String... anyOf) {
+        for (String one : anyOf) {
+            if (what.contains(one)) {
+                return true;
+            }
+        }
+        return false;
+    }
+
+    private static void everyByte(String text, String what) {
+        for (int b = 0; b < 256; b++) {
+            char sign = (char) b;
+            if (goesOnAs(text, sign)) {
+                continue;
+            }
+            boolean goesOn = sign == ' ' || sign == '(' && may(what, "O") || sign == ')' && may(what, "C") || sign == ';' && may(what, "E")
+                || "<=>".indexOf(sign) >= 0 && may(what, "S") || "+-".indexOf(sign) >= 0 && may(what, "P")
+                || sign >= '0' && sign <= '9' && may(what, "N", "T", "O", "o");
+            boolean whole = sign == ';' && may(what, "E") || sign == ' ' && may(what, "L");
+            String told = text + sign;
+            int ended = told.length() - told.replace(";", "").length();
+            answers(told, whole ? ended : -100 - (goesOn ? told.length() : text.length()));
+        }
+    }
+
+    private static void everyWord(String text, String what, String facts) {
+        String all = "good enough recall may years and or not name sure father ward gate two ready total first second tribes yes days zzz";
+        for (String word : all.split(" ")) {
+            if (goesOnAs(text, word.charAt(0))) {
+                continue;
+            }
+            boolean line = "good enough recall may years".contains(word) && !text.contains(word);
+            boolean goesOn = line && may(what, "L") || word.equals("not") && may(what, "O", "o")
+                || (word.equals("and") || word.equals("or")) && may(what, "A") || facts.contains(" " + word + " ") && may(what, "T", "O", "o");
+            answers(text + word, -100 - (goesOn ? text.length() + word.length() : text.length()));
+        }
+    }
+
+    private static void answers(String text, int want) {
+        SherdCity c = new SherdCity();
+        edge.is("of: " + text, Due.read(c, 0, text), want);
+    }
+
     /** What was read ahead of a TEXT, right or with a FAULT, doesn't matter for it. */
     private static void oneBehindAnother() {
         String[] before = {"", "good", "good (((((", "good not", "good (not (1 + 2", "good not not", "good 1 <", "good 1 < 2 <", "good 1 or", "years", "years 5", "years 51;",
@@ -222,6 +309,65 @@ public final class EdgeLawTest {
         }
     }
 
+    /** Each FACT of good is 0 or 1, whatever a SHERD has: any WARD, GATE, FATHER and second NAME. */
+    private static void factsOfSherds() {
+        Scene city = Scenes.NEW.then(c -> {
+            for (int i = 0; i < 8; i++) {
+                c.ward(i % 5, 0);
+            }
+            Scenes.man(c, 7, 0, "abc", "pa");
+            Scenes.man(c, 7, 0, "xyz", "pa");
+            Scenes.man(c, 7, 0, "xyz", "pa");
+        });
+        for (int ward = -1; ward < 8; ward++) {
+            int w = ward;
+            fact("ward", city.then(c -> c.sherd(1, 0, w, -1, 0, 0)), ward >= 0);
+            fact("gate", city.then(c -> c.sherd(1, 0, w, -1, 0, 0)), false);
+        }
+        for (int gate = -1; gate < 5; gate++) {
+            int g = gate;
+            fact("gate", city.then(c -> c.sherd(1, 0, -1, g, 0, 0)), gate >= 0);
+            fact("ward", city.then(c -> c.sherd(1, 0, -1, g, 0, 0)), false);
+        }
+        for (int name : new int[] {0, 1, 26, 28, 387420488}) {
+            fact("father", city.then(c -> c.sherd(1, name, -1, -1, 0, 0)), name != 0);
+            fact("father", city.then(c -> c.sherd(1, 0, -1, -1, name, 0)), false);
+            fact("two", city.then(c -> c.sherd(1, 0, -1, -1, name, 0)), name != 0);
+            fact("two", city.then(c -> c.sherd(1, name, -1, -1, 0, 0)), false);
+        }
+        for (int how : new int[] {0, 1, 9999, 10000, 10001, 19999}) {
+            fact("ready", city.then(c -> c.sherd(1, 0, -1, -1, 0, how)), how > 9999);
+        }
+        String[] names = {"abc", "abd", "xyz", "xy", "ab", "mmm"};
+        for (int i = 0; i < names.length; i++) {
+            String name = names[i];
+            fact("name", city.then(c -> Due.sherd(c, name, 0)), i < 5);
+            fact("sure", city.then(c -> Due.sherd(c, name, 0)), i == 0);
+        }
+    }
+
+    private static void fact(String fact, Scene scene, boolean has) {
+        int is = has ? 1 : 0;
+        edge.answers(fact, ruled(scene, "good " + fact + " = 1;"), c -> c.sherdOf(0, 11), is);
+        edge.answers("not " + fact, ruled(scene, "good " + fact + " = 0;"), c -> c.sherdOf(0, 11), 1 - is);
+        edge.answers(fact + " alone", ruled(scene, "good " + fact + ";"), c -> c.sherdOf(0, 11), is);
+    }
+
+    /** FACTS that are numbers have just those, and a SUM is true if it isn't 0, also below it. */
+    private static void numbersAreTrue() {
+        Scene away = Scenes.strangers(2).then(c -> Due.sherd(c, "bbb", 0)).then(SherdCity::send);
+        int[][] votes = {{0, 0}, {0, 1}, {0, 9999}, {1, 1}, {4, 9}, {5, 9}, {9998, 9999}, {9999, 9999}, {5000, 9999}, {4999, 9999}};
+        for (int[] v : votes) {
+            int yes = v[0];
+            int total = v[1];
+            edge.answers("yes", ruled(away, "recall yes = " + yes + ";"), c -> c.recall(1, yes, total), 1);
+            edge.answers("total", ruled(away, "recall total = " + total + ";"), c -> c.recall(1, yes, total), 1);
+            edge.answers("yes less total", ruled(away, "recall yes - total;"), c -> c.recall(1, yes, total), yes == total ? 0 : 1);
+            edge.answers("yes < total", ruled(away, "recall yes < total;"), c -> c.recall(1, yes, total), yes < total ? 1 : 0);
+            edge.answers("without it: yes + yes > total", away, c -> c.recall(1, yes, total), 2 * yes > total ? 1 : 0);
+        }
+    }
+
     private static void promise25() {
         edge.takes("-9: there is no such LAW", Scenes.FULL, -1, 3, -9, SherdCity::force);
         edge.refusesOutside("-9: there is no such LAW", Scenes.NEW, -1, 3, -9, SherdCity::force);
@@ -263,6 +409,7 @@ public final class EdgeLawTest {
             edge.answers("recall: yes + yes > total, 1 of 2, in: " + law, sent, c -> c.recall(1, 1, 2), 0);
             edge.answers("recall: yes + yes > total, 2 of 3, in: " + law, sent, c -> c.recall(1, 2, 3), 1);
             edge.answers("recall: yes + yes > total, 0 of 0, in: " + law, sent, c -> c.recall(1, 0, 0), 0);
+            edge.answers("recall: yes + yes > total, 1 of 3, in: " + law, sent, c -> c.recall(1, 1, 3), 0);
             edge.answers("recall: yes + yes > total, 5000 of 9999, in: " + law, sent, c -> c.recall(1, 5000, 9999), 1);
             edge.answers("may: 0, in: " + law, sent, c -> c.may(1, 0), 0);
             edge.answers("may: 0, in: " + law, sent, c -> c.may(1, 3599), 0);

@@ -15,6 +15,8 @@ public final class EdgeMenTest {
         promise8();
         promise9();
         wordsPass();
+        daysAtOnce();
+        whereverTheyAre();
         promise10();
         promise11();
         dreadAtItsEnds();
@@ -225,6 +227,71 @@ public final class EdgeMenTest {
         edge.answers("till a DAY goes by", comesLate.then(c -> c.days(1)), c -> c.heard(2, 0), 10);
     }
 
+    /** So many DAYS at once are as many as one behind another. */
+    private static void daysAtOnce() {
+        Scene chain = Scenes.NEW.then(c -> {
+            for (int ward = 0; ward < 6; ward++) {
+                c.ward(0, 0);
+                c.man(ward, ward - 1, 1, 1);
+                c.man(ward, ward < 5 ? ward : -1, 1, 1);
+            }
+        });
+        for (int first = 0; first < 3; first++) {
+            int day = first;
+            Scene told = Scenes.onDay(chain, first).then(c -> c.word(0, 1, 0));
+            for (int n = 1; n < 24; n++) {
+                int days = n;
+                SherdCity once = told.then(c -> c.days(days)).city();
+                SherdCity each = told.then(c -> {
+                    for (int i = 0; i < days; i++) {
+                        c.days(1);
+                    }
+                }).city();
+                for (int man = 0; man < 12; man++) {
+                    edge.is(n + " DAYS at once from " + day + " on, MAN " + man, once.heard(man, 0), each.heard(man, 0));
+                }
+            }
+            // The next WARD's first is of the CLUB of the last one here, and clubs talk as days 0, 3, 6 .. go by.
+            int[] hears = new int[12];
+            hears[0] = day;
+            for (int man = 1; man < 12; man++) {
+                int goesBy = man % 2 == 1 ? hears[man - 1] : hears[man - 1] + (3 - hears[man - 1] % 3) % 3;
+                hears[man] = goesBy + 1;
+            }
+            for (int man = 0; man < 12; man++) {
+                int m = man;
+                edge.answers("along WARDS and CLUBS from DAY " + day + " on, MAN " + man, told.then(c -> c.days(40)),
+                    c -> c.heard(m, 0), hears[man]);
+            }
+        }
+    }
+
+    /** Who is SENT, or has a HARVEST, or too long a way, talks and HEARS as all others do. */
+    private static void whereverTheyAre() {
+        Scene two = Scenes.strangers(2).then(c -> c.man(0, 3, 1, 1)).then(c -> c.ward(0, 0)).then(c -> c.man(1, 3, 1, 1));
+        Scene[] away = {
+            two.then(c -> Due.sherd(c, "aaa", 0)).then(SherdCity::send), two.then(c -> c.harvest(0, 0, 9999)),
+            two.then(c -> c.harvest(1, 0, 9999)), Scenes.NEW.then(c -> c.rule(0, 0)).then(c -> c.ward(0, 600)).then(c -> {
+                Scenes.man(c, 0, -1, "aaa", "pa");
+                Scenes.man(c, 0, -1, "bbb", "pa");
+                c.man(0, 3, 1, 1);
+                c.ward(0, 600);
+                c.man(1, 3, 1, 1);
+            }),
+        };
+        for (int i = 0; i < away.length; i++) {
+            for (int to = 0; to < 2; to++) {
+                int man = to;
+                Scene told = away[i].then(c -> c.word(2, 1, man)).then(c -> c.days(4));
+                edge.answers("he to whom it is told, " + i + ", " + to, told, c -> c.heard(man, 0), 0);
+                edge.answers("to all MEN of their WARD, " + i + ", " + to, told, c -> c.heard(1 - man, 0), 1);
+                edge.answers("to him whom it is about, " + i + ", " + to, told, c -> c.heard(2, 0), 1);
+                edge.answers("and from him to all of his CLUB, " + i + ", " + to, told, c -> c.heard(3, 0), 4);
+            }
+            edge.answers("to all of their CLUB, " + i, away[i].then(c -> c.word(0, 1, 3)).then(c -> c.days(1)), c -> c.heard(2, 0), 1);
+        }
+    }
+
     /** A MAN of each WARD and one of each CLUB, who have none of the two in common. */
     private static void everyWardAndClub() {
         Scene apart = Scenes.NEW.then(c -> {
@@ -333,6 +400,8 @@ public final class EdgeMenTest {
         Scene back = goes.then(SherdCity::send).then(c -> c.recall(0, 1, 1));
         edge.answers("RECALLED on DAY 0: below 0, too", back, c -> c.of(0, 6), -1);
         edge.answers("RECALLED then", back, c -> c.of(0, 7), 1);
+        edge.answers("RECALLED then, however long ago", Scenes.onDay(back, 9999), c -> c.of(0, 7), 1);
+        edge.answers("the DAY stays, however long ago", Scenes.onDay(back, 9999), c -> c.of(0, 5), 0);
         Scene late = Scenes.onDay(goes, 9999).then(c -> Due.rule(c, "years 50;")).then(SherdCity::send);
         edge.answers("SENT on DAY 9999", late, c -> c.of(0, 5), 9999);
         edge.answers("beyond 9999", late, c -> c.of(0, 6), 9999 + 18000 - 1);

@@ -18,6 +18,8 @@ public final class EdgeSentTest {
         asIfHeWereSent();
         promise35();
         keptAtItsEdge();
+        keptOnThatDay();
+        tribesNotWards();
         promise36();
         brokenAtItsEdge();
         edge.end();
@@ -238,6 +240,67 @@ public final class EdgeSentTest {
         Scene sent = bound.then(c -> Due.sherd(c, "ddd", 0)).then(SherdCity::send);
         edge.answers("not SENT", sent, c -> c.keptBy(3), 2);
         edge.answers("enough", bound.then(c -> Due.rule(c, "enough 0;")), c -> c.keptBy(3), NONE);
+    }
+
+    /** MAN 0 of a CLUB that is BOUND to 1, who is SENT on DAYS 5 to 364, and never COMES. */
+    private static void keptOnThatDay() {
+        Scene bound = Scenes.NEW.then(c -> {
+            c.ward(0, 0);
+            c.ward(0, 600);
+            Scenes.man(c, 0, 2, "aaa", "pa");
+            Scenes.man(c, 1, -1, "bbb", "pa");
+            Scenes.man(c, 1, -1, "ccc", "pa");
+            c.fear(0, 2, 9);
+            c.bargain(2, 1, 0, 400);
+            Due.sherd(c, "bbb", 0);
+        });
+        edge.answers("whom it is BOUND to need not COME", bound, c -> c.keptBy(0), 1);
+        edge.answers("BESIDE he casts whom he dreads", bound, c -> c.beside(-1, 0), 2);
+        Scene sent = Scenes.onDay(bound, 5).then(c -> Due.rule(c, "years 1;")).then(SherdCity::send);
+        for (int more : new int[] {0, 400}) {
+            Scene scene = Scenes.onDay(sent, more);
+            int[] days = {0, 4, 5, 364, 365, 400, 401};
+            int[] want = {1, 1, 2, 2, 1, 1, 2};
+            for (int i = 0; i < days.length; i++) {
+                int day = days[i];
+                edge.answers("not SENT on " + day + ", TODAY " + (5 + more), scene, c -> c.keptBy(day), want[i]);
+            }
+        }
+    }
+
+    /** TRIBES are of those who cast, not their WARDS. */
+    private static void tribesNotWards() {
+        int[][] tribes = {{3, 3, 3}, {3, 3, 1}, {0, 4, 2}, {1, 0, 0}, {4, 4, 4}};
+        int[] many = {1, 2, 3, 2, 1};
+        for (int i = 0; i < tribes.length; i++) {
+            int[] of = tribes[i];
+            Scene scene = Scenes.NEW.then(c -> {
+                for (int ward = 0; ward < 3; ward++) {
+                    c.ward(of[ward], 0);
+                    Scenes.man(c, ward, ward, Scenes.stranger(ward), "pa");
+                }
+                c.man(0, -1, Due.name("zzz"), 1);
+                for (int man = 0; man < 3; man++) {
+                    c.fear(man, 3, 1);
+                    c.bargain(man, 3, 7, 7);
+                }
+            });
+            Scene calm = scene.then(c -> {
+                for (int man = 0; man < 3; man++) {
+                    c.fear(man, 3, 0);
+                }
+            });
+            for (int n = 0; n < 5; n++) {
+                boolean right = n == many[i];
+                int want = right ? 3 : NONE;
+                String text = "enough tribes = " + n + " and total = 3;";
+                edge.answers("BESIDE: " + text, scene.then(c -> Due.rule(c, text)), c -> c.beside(-1, 0), want);
+                edge.answers("KEPT: " + text, calm.then(c -> Due.rule(c, text)), c -> c.keptBy(7), want);
+                edge.answers("TURN: " + text, calm.then(c -> Due.rule(c, text)), c -> c.turn(3, 0), right ? 7 : NONE);
+                edge.answers("of a VOTE: " + text, scene.then(SherdCity::vote).then(c -> Due.rule(c, text)), c -> c.count(0, 5), want);
+            }
+            edge.answers("TRIBES of a VOTE", scene.then(SherdCity::vote), c -> c.count(0, 4), many[i]);
+        }
     }
 
     private static void promise36() {

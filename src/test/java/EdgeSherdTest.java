@@ -8,6 +8,7 @@ public final class EdgeSherdTest {
         badAheadOfFull();
         howAtItsEnds();
         promise19();
+        whoseItIs();
         promise20();
         promise21();
         meantAtItsEnds();
@@ -71,6 +72,48 @@ public final class EdgeSherdTest {
             .then(SherdCity::vote);
         edge.tells("a SHERD of a VOTE on the last DAY", made.city(), (c, v) -> c.sherdOf(0, v), Due.name("aaa"), Due.name("pa"), 0, 0,
             0, 0, 9999, 9999, NONE, 1, 1, 1);
+    }
+
+    /** The writer, of WARD 1, TRIBE 4 and HAND 77, casts one of WARD 2, TRIBE 3 and HAND 55, whose STYLE is another. */
+    private static void whoseItIs() {
+        for (int how = 0; how < 4; how++) {
+            int h = how;
+            Scene scene = Scenes.NEW.then(c -> {
+                c.ward(0, 0);
+                c.ward(4, 0);
+                c.ward(3, 600);
+                Scenes.man(c, 1, 0, "writer", "fwrit");
+                Scenes.man(c, 2, 1, "cast", "fcast");
+                c.style(0, 77, h);
+                c.style(1, 55, 3 - h);
+                c.fear(0, 1, 9);
+            });
+            int father = (how & 1) != 0 ? Due.name("fcast") : 0;
+            int ward = (how & 2) != 0 ? 2 : NONE;
+            edge.answers("one, as the other doesn't COME", scene, SherdCity::vote, 1);
+            edge.tells("what a VOTE makes, how " + how, scene.then(SherdCity::vote).city(), (c, v) -> c.sherdOf(0, v), Due.name("cast"),
+                father, ward, 4, 0, 0, 77, 0, NONE, 1, 2, 1);
+        }
+        Scene all = Scenes.NEW.then(c -> {
+            c.ward(2, 0);
+            for (int i = 0; i < 4; i++) {
+                Scenes.man(c, 0, -1, Scenes.stranger(i), "pa");
+                c.style(i, 10 + i, 0);
+            }
+            c.fear(0, 3, 1);
+            c.fear(2, 1, 1);
+            c.fear(3, 0, 1);
+        });
+        SherdCity c = all.city();
+        edge.is("one for each MAN whose CAST isn't nobody", c.vote(), 3);
+        int[] writers = {0, 2, 3};
+        int[] whom = {3, 1, 0};
+        for (int i = 0; i < 3; i++) {
+            edge.is("by numbers: the HAND of " + i, c.sherdOf(i, 6), 10 + writers[i]);
+            edge.is("by numbers: the NAME of " + i, c.sherdOf(i, 0), Due.name(Scenes.stranger(whom[i])));
+        }
+        edge.is("another VOTE of the same DAY makes as many", c.vote(), 3);
+        edge.is("and they are numbered on", c.many(5), 6);
     }
 
     private static void sherds(SherdCity c, int howMany) {

@@ -10,6 +10,7 @@ public final class EdgeTurnTest {
         leastBitsOfSeveral();
         whoTurns();
         castsNotBargains();
+        sentOnThatDay();
         promise38();
         promise39();
         promise40();
@@ -165,6 +166,42 @@ public final class EdgeTurnTest {
         edge.answers("who is SENT turns not", sent.then(c -> c.fear(1, 0, 1)), c -> c.turn(1, 0), NONE);
         edge.answers("TRIBES of those who turn", ruled(home, "enough tribes = 2;"), c -> c.turn(0, 0), 24);
         edge.answers("SECOND", ruled(clubs(0, 1).then(c -> c.fear(2, 1, 1)), "enough second = 0;"), c -> c.turn(0, 0), 2);
+    }
+
+    /** MAN 2, alone of another TRIBE, is SENT on DAYS 5 to 364: on these there is no TURN for him. */
+    private static void sentOnThatDay() {
+        Scene sent = Scenes.NEW.then(c -> {
+            c.ward(0, 0);
+            c.ward(1, 0);
+            for (int i = 0; i < 3; i++) {
+                Scenes.man(c, i / 2, i, Scenes.stranger(i), "pa");
+            }
+            Due.sherd(c, "ccc", 0);
+            c.days(5);
+            Due.rule(c, "years 1;");
+            c.send();
+        });
+        String byTwo = "enough first = 2 and tribes = 2;";
+        String byOne = "enough first = 2 and tribes = 1;";
+        for (int more : new int[] {0, 400}) {
+            Scene scene = Scenes.onDay(sent, more);
+            Scene others = laws(scene, byTwo, byOne);
+            Scene him = laws(scene, byOne, "enough 0;");
+            for (int d : new int[] {0, 4, 5, 6, 364, 365, 9999}) {
+                int day = d;
+                boolean there = d < 5 || d > 364;
+                String at = " on " + d + ", TODAY " + (5 + more);
+                edge.answers("TURN for him" + at, scene, c -> c.turn(2, day), there ? 1 : NONE);
+                edge.answers("TURN for MAN 0" + at, scene, c -> c.turn(0, day), 2);
+                Scene proven = scene.then(c -> c.prove(day));
+                rows("ROWS" + at, proven, 1, 1, there ? 1 : -1);
+                edge.answers("THE READER" + at, proven, c -> c.judge(day), 0);
+                edge.answers("THE READER on DAY 4" + at, proven, c -> c.judge(4), there ? 0 : 3);
+                edge.answers("THE READER on DAY 5" + at, proven, c -> c.judge(5), there ? 3 : 0);
+                edge.answers("2 under both if he is there, else 7" + at, others, c -> c.best(day), 0);
+                edge.answers("2 for him alone, if he is there, else 7" + at, him, c -> c.best(day), there ? 1 : 0);
+            }
+        }
     }
 
     private static void promise38() {

@@ -59,6 +59,8 @@ public final class FaceTest {
         for (Field f : SherdCity.class.getDeclaredFields()) {
             if (!Modifier.isPrivate(f.getModifiers())) {
                 constants.add(f.getName());
+                due.is(f + " is public, static and final", f.getModifiers(), Modifier.PUBLIC | Modifier.STATIC | Modifier.FINAL);
+                due.holds(f + " is an int", f.getType() == int.class);
             }
         }
         due.holds("the constants", constants.equals(new TreeSet<>(List.of("BAD", "FULL", "NONE", "STATE"))));
@@ -67,6 +69,10 @@ public final class FaceTest {
         due.is("NONE", SherdCity.NONE, -3);
         due.is("STATE", SherdCity.STATE, -4);
         due.is("constructors", SherdCity.class.getDeclaredConstructors().length, 1);
+        due.is("the constructor is public and takes nothing", SherdCity.class.getConstructors()[0].getParameterCount(), 0);
+        due.holds("no class above it, no interface", SherdCity.class.getSuperclass() == Object.class
+            && SherdCity.class.getInterfaces().length == 0);
+        due.holds("no package", SherdCity.class.getPackageName().isEmpty());
         due.holds("public and final", Modifier.isPublic(SherdCity.class.getModifiers())
             && Modifier.isFinal(SherdCity.class.getModifiers()));
     }
@@ -78,8 +84,18 @@ public final class FaceTest {
             int m = c.getModifiers();
             due.holds(c + " is static and not public", Modifier.isStatic(m) && !Modifier.isPublic(m) && !Modifier.isProtected(m));
             fewFields(c);
+            fewParameters(c);
         }
         fewFields(SherdCity.class);
+        fewParameters(SherdCity.class);
+    }
+
+    private static void fewParameters(Class<?> c) {
+        for (Method m : c.getDeclaredMethods()) {
+            due.holds(m + " takes seven parameters at most", m.getParameterCount() <= 7);
+            boolean onFace = Arrays.stream(FACE).anyMatch(f -> f.split(" ")[0].equals(m.getName()));
+            due.holds(m + " is of the face or bears another name", !onFace || c == SherdCity.class);
+        }
     }
 
     private static void fewFields(Class<?> c) {
